@@ -32,6 +32,9 @@ public final class BestTest {
     Due.is("best(23, 0)", x.best(23, 0), 1);
     Due.is("best(23, 15)", x.best(23, 15), 15407021574586368L);
     Due.is("best(0, 15)", x.best(0, 15), 0);
+    StonePost y = Due.land("thrower at 0 near 3;home 3");
+    Due.is("from the first cell", y.best(0, 1), 8);
+    Due.is("from the last cells", Due.land("road 22").best(22, 1), 12);
     x.change(0, 7, 1);
     Due.is("ill", x.best(20, 3), 0);
     for (int w : WRONG) {
@@ -63,9 +66,16 @@ public final class BestTest {
     StonePost x = Due.land("old at 20 near 3 far 4 odds 12;brook 22");
     Due.is("by night FAR", x.best(20, 1), 10);
     Due.is("choose by night", x.choose(0, 1), 1);
-    x.hours(6);
+    x.hours(5);
+    Due.is("choose in the last hour of the night", x.choose(0, 1), 1);
+    x.hours(1);
     Due.is("by day NEAR", x.best(20, 1), 12);
     Due.is("choose by day", x.choose(0, 1), 0);
+    x = Due.land("old at 5 near 2 far 6 odds 12;thrower at 7 near 7 odds 6;lad at 10 near 8;home 14;fetch 0");
+    x.hours(17);
+    Due.is("choose in the last hour of the day", x.choose(0, 2), 0);
+    x.hours(1);
+    Due.is("and in the first of the night", x.choose(0, 2), 1);
   }
 
   private static void choose() {
@@ -182,6 +192,7 @@ public final class BestTest {
     Due.is("unchanged", x.of(0, 7), 1);
     x.set(0);
     Due.is("CHOICES as they are", x.missed(18, 1), 1);
+    Due.is("each one by himself", Due.land("thrower at 20 near 3;thrower at 21").missed(20, 3), 0);
   }
 
   private static void missedWrong() {

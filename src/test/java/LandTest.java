@@ -189,6 +189,9 @@ public final class LandTest {
     for (int i = 0; i < odds.length; i++) {
       x.change(0, 5, odds[i]);
       x.change(2, 5, odds[i]);
+      x.change(4, 5, odds[i]);
+      Due.is("blind near of " + odds[i], x.told(4, 1, 0, 12), shaky[i]);
+      Due.is("blind far of " + odds[i], x.told(4, 1, 1, 12), shakyFar[i]);
       Due.is("sure near of " + odds[i], x.told(0, 1, 0, 12), odds[i]);
       Due.is("sure far of " + odds[i], x.told(0, 1, 1, 12), far[i]);
       Due.is("shaky near of " + odds[i], x.told(2, 1, 0, 12), shaky[i]);
@@ -212,7 +215,7 @@ public final class LandTest {
       Due.is("old at " + clock, x.told(0, 0, 0, clock), night ? 4 : 5);
       Due.is("blind at " + clock, x.told(1, 1, 0, clock), night ? 0 : 9);
       Due.is("old falls at " + clock, x.falls(0, 0, clock, false), night ? 9 : 10);
-      Due.is("whose at " + clock, x.whose(8, clock), night ? 1 : 2 + 0);
+      Due.is("whose at " + clock, x.whose(8, clock), night ? 1 : 2);
     }
   }
 

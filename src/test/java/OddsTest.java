@@ -81,6 +81,13 @@ public final class OddsTest {
     x.hours(1);
     Due.is("night again", x.odds(0, 1, 3), 0);
     Due.is("the day behind it", x.odds(0, 13, 3), 12L * 743008370688L * 8);
+    x = Due.land("old at 3 near 2 far 9;blind at 20 near 2 far 5 odds 12 west");
+    x.set(3);
+    Due.is("FAR by night", x.odds(3, 1, 11), 6);
+    Due.is("FAR by night, blind", x.odds(20, 1, 16), 12);
+    x.hours(12);
+    Due.is("FAR by day", x.odds(3, 1, 12), 6);
+    Due.is("FAR by day, blind", x.odds(20, 1, 15), 7);
   }
 
   private static void lost() {
@@ -92,7 +99,13 @@ public final class OddsTest {
     Due.is("lost(0, 2)", x.lost(0, 2), 96);
     Due.is("lost(0, 3)", x.lost(0, 3), 96 * 12 + 48 * 8);
     Due.is("lost(3, 15)", x.lost(3, 15), ALL);
+    x.stuff(0, 1);
+    Due.is("on the first cell", x.lost(1, 1), 12);
+    x.stuff(0, 0);
+    x.stuff(22, 1);
+    x.stuff(23, 1);
     x.rule(0, 3);
+    Due.is("on the last cells", x.lost(22, 2) + x.lost(23, 2), 288);
     Due.is("HOME in a BROOK", x.lost(0, 3), 0);
     Due.is("HOME in a BROOK", x.lost(3, 3), 0);
     for (int w : new int[] {-1, 24, Integer.MIN_VALUE, Integer.MAX_VALUE}) {
@@ -113,6 +126,7 @@ public final class OddsTest {
     Due.is("of two the least", x.likeliest(10, 1), 9);
     Due.is("of two the least", x.likeliest(20, 1), 20);
     Due.is("likeliest(23, 15)", x.likeliest(23, 15), 23);
+    Due.is("each cell", new StonePost().likeliest(1, 3), 1);
     for (int w : new int[] {-1, 24, Integer.MIN_VALUE, Integer.MAX_VALUE}) {
       Due.is("likeliest(w, 0)", x.likeliest(w, 0), Due.BEYOND);
       Due.is("likeliest(0, w)", x.likeliest(0, w), Due.BEYOND);

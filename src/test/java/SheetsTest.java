@@ -98,7 +98,10 @@ public final class SheetsTest {
       Due.is("missing", x.load(s), Due.MISSING);
     }
     Due.is("all 0 anew", x.sheet(0, 8, 3) + x.write(0, 1, 9) + x.sheet(0, 8, 4), 3 + 1 + 4);
+    x.stuff(1, 3);
+    x.stuff(3, 3);
     Due.is("all 0 anew", x.load(0), 4);
+    Due.is("all 0 anew", x.stuff(1, 0) + x.stuff(3, 0), 0);
     for (int w : new int[] {4, -1, Integer.MIN_VALUE, Integer.MAX_VALUE}) {
       Due.is("sheet(w, 8, 1)", x.sheet(w, 8, 1), Due.BEYOND);
       Due.is("beyond ahead of size", x.sheet(w, 8, -1), Due.BEYOND);
@@ -145,6 +148,12 @@ public final class SheetsTest {
     Due.is("-1", x.load(2), 1);
     x.write(2, 1, 1);
     Due.is("1", x.load(2), 2);
+    x.write(2, 0, Integer.MIN_VALUE);
+    Due.is("the sign of 32 bits", x.load(2), 0);
+    x.write(1, 0, 32768);
+    Due.is("the sign of 16 bits", x.load(1), 0);
+    x.write(0, 0, 128);
+    Due.is("the sign of 8 bits", x.load(0), 0);
     x.sheet(3, 8, 1);
     x.write(3, 0, 12 - 256);
     Due.is("12 by its lowest bits", x.judge(3, 1), 0);

@@ -35,6 +35,10 @@ public final class StonesTest {
     Due.is("near, short", x.whose(4, 0), 1);
     Due.is("far, SURE 0", x.whose(9, 0), 0);
     Due.is("far, short", x.whose(8, 0), 1);
+    x.change(0, 5, 1);
+    Due.is("near, SURE 1", x.whose(5, 0), 1);
+    x.change(0, 5, 11);
+    Due.is("near, short with SURE 11", x.whose(4, 0), 1);
     x.change(0, 0, 6);
     Due.is("a lad, near", x.whose(4, 0), 1);
     Due.is("a lad, near short", x.whose(3, 0), 0);
@@ -135,6 +139,7 @@ public final class StonesTest {
     Due.is("one of most after another", withThanks(9, 8, 0, 0, 3).gifts(), 3);
     Due.is("all from one", withThanks(40, 0, 0, 0, 0, 0, 0, 0, 0, 0).gifts(), 9);
     Due.is("mean 0", withThanks(1, 0, 0).gifts(), 0);
+    Due.is("one gives till he has the mean", withThanks(0, 5, 0, 3).gifts(), 3);
   }
 
   private static void giftsOfOthers() {

@@ -88,7 +88,10 @@ public final class TextTest {
     Due.is("where(1)", x.where(1), 0);
     Due.is("count(5)", x.count(5), 0);
     Due.is("one item", Due.text(x, "home 0"), 1);
-    Due.is("fetch 0", Due.text(x, "fetch 0;home 23;grass 0;letter 23"), 4);
+    Due.is("edges", Due.text(x, "fetch 0;home 23;grass 0;letter 23;hedge 23;road 0 to 0"), 6);
+    Due.is("HOME", x.rule(0, 0), 23);
+    Due.is("stuff(23)", x.stuff(23, 0), 2);
+    Due.is("stuff(0)", x.stuff(0, 0), 3);
     Due.is("the third letter", x.where(2), 23);
   }
 
@@ -158,6 +161,9 @@ public final class TextTest {
     fault("lad at 4 wes", 9);
     fault("lad at 4 wests", 9);
     fault("throwers at 4", 0);
+    fault("homez 3", 0);
+    fault("come 3", 0);
+    fault("homf 3", 0);
   }
 
   private static void endsTooEarly() {
