@@ -289,6 +289,12 @@ public final class SheetsTest {
     Due.is("a brook", x.judge(0, 1), 0);
     fill(x, 0, 8, 23, 23, 22);
     Due.is("HOME", x.judge(0, 2), 3);
+    int[] forty = new int[40];
+    java.util.Arrays.fill(forty, 23);
+    fill(x, 0, 8, forty);
+    Due.is("as many as a sheet has", x.judge(0, 2), 0);
+    x.write(0, 39, 22);
+    Due.is("all but the last", x.judge(0, 2), 40);
     fill(x, 0, 8, 20, 20, 20, 21, 22, 21, 23);
     Due.is("a hedge", x.judge(0, 3), 0);
     x.change(1, 6, 1);
