@@ -16,7 +16,8 @@ import java.util.regex.Pattern;
  * text("home 3") these and then text(); {1, 5} a set; ALL 12 to the 15; MIN and MAX the ints at the ends.
  *
  * <p>Whatever is refused, and whatever only asks, is made twice: one object with it and one without it must be
- * alike in all but status() afterwards, and that counts just the one finding.
+ * alike in all but status() afterwards, and that counts just the one finding. A text() with a FAULT must be as a
+ * wipe().
  */
 final class Edge {
   static final String ALL = "15407021574586368";
@@ -188,7 +189,8 @@ final class Edge {
       } else {
         Due.is(told, answer, call.due());
       }
-      if (call.isFinding(answer) || QUESTIONS.contains(call.name())) {
+      boolean isFault = call.name().equals("text") && answer < 0;
+      if (isFault || call.isFinding(answer) || QUESTIONS.contains(call.name())) {
         checkUnchanged(i, call.isFinding(answer) ? finding(answer) : -1, told);
       }
     }
@@ -218,6 +220,9 @@ final class Edge {
   private void checkUnchanged(int at, int finding, String told) {
     StonePost with = after(at + 1);
     StonePost without = after(at);
+    if (calls.get(at).name().equals("text")) {
+      without.wipe();
+    }
     for (int which = -1; which <= 6; which++) {
       int more = finding >= 0 && (which == -1 || which == finding) ? 1 : 0;
       Due.is(told + ", then status(" + which + ")", with.status(which), without.status(which) + more);
