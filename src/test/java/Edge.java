@@ -83,6 +83,13 @@ final class Edge {
     }
   }
 
+  /** Rows, and more behind them. */
+  static String[] rows(String[] first, String... then) {
+    String[] rows = Arrays.copyOf(first, first.length + then.length);
+    System.arraycopy(then, 0, rows, first.length, then.length);
+    return rows;
+  }
+
   static void end() {
     Due.end();
   }
